@@ -945,26 +945,37 @@ public final class TugLines {
         }
 
         void passHour(boolean fog) {
-            int speed = speedBy(fog ? force() / 2 : force());
+            int force = 0;
             for (int t = 0; t < tugs; t++) {
-                if (holds(t)) {
-                    strain(t, speed);
+                int draw = drawOf(t);
+                // Ahead of the fraying: a rope that PARTS in this HOUR has drawn in it all the same.
+                force += draw;
+                if (draw > ropes[t]) {
+                    fray(t);
                 }
             }
-            comeNearer(speed);
-            // Last, since what a TUG DRAWS goes by the HOUR as it began.
+            int speed = speedBy(fog ? force / 2 : force);
+            if (speed >= BOY_PARTS) {
+                partBoys();
+            }
+            if (speed > 0) {
+                comeNearer(speed);
+            }
             hour++;
         }
 
-        private void strain(int t, int speed) {
-            if (drawOf(t) > ropes[t]) {
-                frayed[t]++;
-                if (frayed[t] >= (kinds[t] == STOUT ? STOUT_PARTS_AT : PARTS_AT)) {
+        private void fray(int t) {
+            frayed[t]++;
+            if (frayed[t] >= (kinds[t] == STOUT ? STOUT_PARTS_AT : PARTS_AT)) {
+                letGo(t);
+            }
+        }
+
+        private void partBoys() {
+            for (int t = 0; t < tugs; t++) {
+                if (kinds[t] == BOY) {
                     letGo(t);
                 }
-            }
-            if (kinds[t] == BOY && speed >= BOY_PARTS) {
-                letGo(t);
             }
         }
 

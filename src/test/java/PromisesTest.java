@@ -216,6 +216,20 @@ public final class PromisesTest {
         due("TUGS", x.count(1), 1);
         due("no second", x.tug(1, 0), BAD);
         due("the tape is empty", x.count(8), 0);
+        // Nothing of what was foretold, or stood, is left in one that is read anew.
+        due("another", read(x, "t4,60;p5,4;p1,1;q9,9;"), 2);
+        x.hours(2);
+        x.loose(1);
+        x.later(2, 0);
+        due("one without PIERS", read(x, "t8,50;p1,20;"), 1);
+        int[] want = {0, 1, 0, 0, 8, 50, 1, 0, 0};
+        for (int what = 0; what < want.length; what++) due("anew: count(" + what + ")", x.count(what), want[what]);
+        due("another", read(x, "t4,60;p5,4;p1,1;q9,9;"), 2);
+        x.hours(1);
+        x.later(1, 0);
+        due("as long", read(x, "t4,60;p5,4;p1,1;"), 2);
+        due("HOUR", x.count(3), 0);
+        due("FRAYED", x.tug(0, 2), 0);
     }
 
     private static void faulty(String text, int place, int number) {
@@ -597,12 +611,15 @@ public final class PromisesTest {
         due("no TUG", x.parts(6), BAD);
         due("no TUG", x.parts(-1), BAD);
         due("nothing changed", x.count(3), 3);
+        due("a boy by SPEED 5", told("t4,99;p5,20;b1,20;").parts(1), 1);
+        due("a boy by SPEED 4 in HOUR 0, 5 in HOUR 1", told("t4,99;p4,20;b1,20;").parts(1), 2);
     }
 
     private static void promise20Crew() {
         // OUT 12: 4 HOURS by 3 each: the TUG of 3 alone; in 3 HOURS 4 are needed.
         TugLines x = told("t4,12;p1,20;p2,20;p3,20;p1,20;");
         due("in 12", x.crew(12, 0), 1);
+        due("in 30", x.crew(30, 0), 1);
         due("the least of four", x.crew(12, 1), 1);
         due("in 6", x.crew(6, 1), 2);
         due("in 4", x.crew(4, 1), 4);
@@ -650,6 +667,7 @@ public final class PromisesTest {
         due("in 5", x.cleared(5, 0), 1);
         due("in 4", x.cleared(4, 0), 2);
         due("in 2", x.cleared(2, 1), 3);
+        due("in 1", x.cleared(1, 1), NONE);
         x.clear(0);
         due("only those that STAND", x.cleared(4, 0), 1);
         due("only those that STAND", x.cleared(4, 1), 2);
@@ -679,6 +697,7 @@ public final class PromisesTest {
         due("no TUG", x.least(-1, 1), BAD);
         // 20 is the greatest: MASS 40, OUT 2, an HOUR: 4 * 20 by 40.
         due("20", told("t40,2;p1,20;").least(0, 1), 20);
+        due("21 would do", told("t42,2;p1,20;").least(0, 1), NONE);
     }
 
     private static void promise23Share() {
@@ -750,6 +769,29 @@ public final class PromisesTest {
         due("OUT", x.count(5), 81);
         tell(x, 1, 75, 73);
         due("a paddler", x.fits(1, 1, 0, 2, 0), 2);
+        // All that there is: HOUR 0 of a launch is nothing; 20 by MASS 40 is 2, 19 is 1; MASS 41 to 60: 80 by it is 1.
+        x = told("t40,40;a20,20;");
+        tell(x, 0, 40);
+        due("KINDS: a launch, one with a boy", x.fits(0, 0, 0, 1, 0), 16 + 32);
+        due("all PULLS", x.fits(0, 0, 0, 1, 1), (1 << 21) - 2);
+        due("all MASSES", x.fits(0, 0, 0, 1, 3), 60);
+        tell(x, 1, 40, 38);
+        due("the greatest PULL", x.fits(0, 1, 0, 2, 1), 1 << 20);
+        tell(x, 2, 40, 39);
+        due("the greatest MASSES", x.fits(0, 2, 0, 2, 3), 20);
+        due("the greatest MASSES", x.fits(0, 2, 0, 2, 4), 41);
+        x = told("t60,40;p15,20;");
+        tell(x, 1, 39);
+        // 60 by MASS is 1 for 31 to 60.
+        due("MASS 60, too", x.fits(0, 1, 0, 1, 3), 30);
+        x = told("t59,40;p15,20;s14,20;");
+        tell(x, 1, 39);
+        x.pull(1, 15);
+        x.pull(0, 15);
+        // 120 by MASS is 2 up to 60: none is 1.
+        due("no MASS", x.fits(0, 1, 0, 1, 4), NONE);
+        tell(x, 1, 38);
+        due("41 to 60", x.fits(0, 1, 0, 1, 3), 20);
     }
 
     private static void promise24FitsRefusals() {
@@ -831,6 +873,9 @@ public final class PromisesTest {
         due("6 HOURS", x.drawn(6, 1, 0), yearsByHand(6));
         due("7 HOURS", x.drawn(7, 1, 0), yearsByHand(7));
         due("60 HOURS", x.drawn(60, 1, 0), yearsByHand(60));
+        int often = 0;
+        for (int seed = 1; seed < 400; seed++) often += told1().drawn(60, seed, 0);
+        due("how often by one TUG, SEEDS 1 to 399", often, oneTugsYears(399));
         due("61 HOURS", x.drawn(61, 1, 0), BAD);
         due("-1 HOURS", x.drawn(-1, 1, 0), BAD);
         due("SEED 0", x.drawn(1, 0, 0), BAD);
@@ -860,6 +905,28 @@ public final class PromisesTest {
         return often;
     }
 
+    private static TugLines told1() {
+        return told("t4,1;p9,20;");
+    }
+
+    /** MASS 4, OUT 1, a paddler of 9, gone when X by 5 leaves 0, back the next HOUR; 60 HOURS of each SEED. */
+    private static int oneTugsYears(int seeds) {
+        int often = 0;
+        for (int seed = 1; seed <= seeds; seed++) {
+            long v = seed;
+            int out = 1;
+            boolean there = true;
+            for (int h = 0; h < 60; h++) {
+                v = v * 16807 % 2147483647;
+                there = !there || v % 5 != 0;
+                out = out == 0 ? 1 + (int) (v % 99) : out;
+                out = Math.max(0, there ? out - 9 : out);
+                often += out == 0 ? 1 : 0;
+            }
+        }
+        return often;
+    }
+
     private static void promise27And28Images() {
         TugLines x = told("t4,40;p5,4;p1,20;q20,7;");
         x.hours(2);
@@ -881,6 +948,7 @@ public final class PromisesTest {
         due("STANDS", x.pier(0, 1), 7);
         due("on", x.hours(1), 22);
         due("the IMAGE stays", x.restore(0), 1);
+        due("no ACT", x.count(7), 0);
         due("OUT", x.count(5), 28);
         due("the other", x.restore(1), 1);
         due("STANDS", x.pier(0, 1), 0);
