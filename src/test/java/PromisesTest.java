@@ -102,6 +102,7 @@ public final class PromisesTest {
         due("far fewer", x.row(1, 1, MIN), SIZE);
         due("what is found changes nothing", x.drop(0), 40);
         due("set", x.row(2, 2, 2), 2);
+        due("set", x.set(2, 0, 76), 76);
         due("set", x.set(2, 1, 77), 77);
         due("in place of what is there", x.row(2, 2, 3), 3);
         due("items are 0 at first", x.row(3, 2, 3), 3);
@@ -410,6 +411,9 @@ public final class PromisesTest {
         x = told("t4,99;p5,20;b1,20;");
         x.hours(1);
         due("SPEED 5 in HOUR 0", x.count(6), 1);
+        x = told("t4,99;b1,20;p5,20;b1,20;");
+        x.hours(1);
+        due("all that have a boy", x.count(6), 2);
         // It frays as others do: HOURS 1, 2 and 4.
         x = told("t60,99;b5,4;");
         x.hours(4);
@@ -573,6 +577,7 @@ public final class PromisesTest {
             due("what STANDS at " + d, x.later(d, 3), 3 > d ? 1 : 0);
         }
         due("60 on", x.later(60, 0), 0);
+        due("PIERS of 1 STAND, too", told("t4,30;p1,20;q9,1;q8,2;").later(0, 3), 3);
         due("SPEED of what is IN", x.later(60, 1), 0);
         due("nothing changed", x.count(5), 30);
         due("nothing changed", x.count(3), 0);
@@ -788,6 +793,11 @@ public final class PromisesTest {
         tell(x, 1, 39);
         x.pull(1, 15);
         x.pull(0, 15);
+        // 236 by MASS is 3 for 60 alone: by 59 it is 4.
+        TugLines heavy = told("t60,40;p20,20;p20,20;p19,20;");
+        tell(heavy, 0, 37);
+        due("MASS 60 alone", heavy.fits(0, 0, 0, 1, 3), 1);
+        due("MASS 60 alone", heavy.fits(0, 0, 0, 1, 4), 60);
         // 120 by MASS is 2 up to 60: none is 1.
         due("no MASS", x.fits(0, 1, 0, 1, 4), NONE);
         tell(x, 1, 38);
@@ -1006,7 +1016,7 @@ public final class PromisesTest {
     private static void promise31And32Asks() {
         TugLines x = told(ALL);
         x.hours(2);
-        // FRAYED: 2 of a paddler; 1 of a lame one (HOUR 1: 4 by 2 is more, too): 2; 2 of a stout one; 1 of launches.
+        // FRAYED in HOURS 0 and 1 (the half that a lame one DRAWS, 4, is more than 2, too); of launches in HOUR 1.
         int[] frayed = {2, 2, 2, 1, 1};
         for (int t = 0; t < 5; t++) due("FRAYED", x.tug(t, 2), frayed[t]);
         asked(x, 0, 0, 9 + 0 + 2, 11, 10, 21, 20);
