@@ -951,7 +951,10 @@ public final class TugLines {
                 // Ahead of the fraying: a rope that PARTS in this HOUR has drawn in it all the same.
                 force += draw;
                 if (draw > ropes[t]) {
-                    fray(t);
+                    frayed[t]++;
+                }
+                if (ropeIsThrough(t)) {
+                    letGo(t);
                 }
             }
             int speed = speedBy(fog ? force / 2 : force);
@@ -964,11 +967,9 @@ public final class TugLines {
             hour++;
         }
 
-        private void fray(int t) {
-            frayed[t]++;
-            if (frayed[t] >= (kinds[t] == STOUT ? STOUT_PARTS_AT : PARTS_AT)) {
-                letGo(t);
-            }
+        /** Asked of FRAYED alone: a stout one's rope, taken as another KIND's, may be through before it frays on. */
+        private boolean ropeIsThrough(int t) {
+            return frayed[t] >= (kinds[t] == STOUT ? STOUT_PARTS_AT : PARTS_AT);
         }
 
         private void partBoys() {

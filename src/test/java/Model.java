@@ -113,7 +113,8 @@ final class Model {
             List<Tug> parting = new ArrayList<>();
             for (Tug t : tugs) {
                 if (!t.holds) continue;
-                if (t.draws(hour) > t.rope && ++t.frayed >= t.needs) parting.add(t);
+                if (t.draws(hour) > t.rope) t.frayed++;
+                if (t.frayed >= t.needs) parting.add(t);
                 if (t.scared(speed)) parting.add(t);
             }
             parting.forEach(Tug::free);
@@ -400,6 +401,15 @@ final class Model {
         if (all == 0) return 0;
         for (Tug t : scene.tugs) if (t.holds && given < n) { shares[t.number]++; given++; }
         return shares[tug];
+    }
+
+    /** For the tests: OUT behind each of n HOURS, were the TUG of that KIND (0: as it is). */
+    int[] outsAs(int tug, int sort, int n) {
+        Scene s = scene.twin();
+        if (isTug(tug) && sort > 0) s.tugs.set(tug, s.tugs.get(tug).twin(sort));
+        int[] outs = new int[n];
+        for (int h = 0; h < n; h++) { s.pass(false); outs[h] = s.out; }
+        return outs;
     }
 
     int fits(int tug, int row, int i, int n, int what) {

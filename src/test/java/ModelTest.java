@@ -12,6 +12,7 @@ public final class ModelTest {
     private final List<String> calls = new ArrayList<>();
     private final Check check;
     private boolean wrong;
+    private int frayedFits;
 
     private ModelTest(long seed, Check check) {
         this.random = new Random(seed);
@@ -27,12 +28,14 @@ public final class ModelTest {
             test.see(seen);
         }
         // A run that never comes to the rarer things would show nothing of them.
-        String[] rare = {"FULL tapes", "places of FAULTS", "a FRAYED rope", "a forgotten ACT"};
+        String[] rare = {"FULL tapes", "places of FAULTS", "a FRAYED rope", "a forgotten ACT",
+            "fits() of a stout one FRAYED 3 or more"};
         for (int k = 0; k < rare.length; k++) check.that("the runs came to " + rare[k] + ": " + seen[k], seen[k] > 20);
         check.end();
     }
 
     private void see(int[] seen) {
+        seen[4] += frayedFits;
         for (String call : calls) {
             if (call.startsWith("feed") && call.endsWith("= -1000003")) seen[0]++;
             if (call.startsWith("estuary") && call.contains("= -10001")) seen[1]++;
@@ -80,7 +83,19 @@ public final class ModelTest {
         return random.nextInt(60) == 0 ? about(low, high) : low + random.nextInt(high - low + 1);
     }
 
+    /** A heavy THING far out, and stout ones that fray as they grow: they are FRAYED 3 to 5 for many HOURS. */
+    private String stoutText() {
+        StringBuilder s = new StringBuilder();
+        s.append('t').append(number(10, 30)).append(",99;");
+        for (int t = random.nextInt(3); t >= 0; t--) {
+            int pull = number(1, 15);
+            s.append('s').append(pull).append(',').append(pull + random.nextInt(3)).append(';');
+        }
+        return s.toString();
+    }
+
     private String text() {
+        if (random.nextInt(6) == 0) return stoutText();
         StringBuilder s = new StringBuilder();
         int most = random.nextInt(3) == 0 ? 60 : 20;
         s.append('t').append(Math.abs(number(1, most))).append(',').append(Math.abs(number(1, 99))).append(';');
@@ -124,16 +139,18 @@ public final class ModelTest {
         see("count(8)", x.count(8), m.count(8));
     }
 
-    /** A ROW of what is to come, so that some of what is supposed fits it. */
+    /** A ROW of what is to come, at times were a TUG of another KIND, so that some of what is supposed fits it. */
     private void tellRow() {
         int r = random.nextInt(8);
         int n = 1 + random.nextInt(12);
+        int t = aTug();
+        int[] outs = m.outsAs(t, random.nextInt(6), n);
         see("row(" + r + ", 2, " + n + ")", x.row(r, 2, n), m.row(r, 2, n));
         for (int i = 0; i < n; i++) {
-            int v = m.later(i + 1, 0) + (random.nextInt(40) == 0 ? 1 : 0);
+            int v = outs[i] + (random.nextInt(40) == 0 ? 1 : 0);
             see("set(" + r + ", " + i + ", " + v + ")", x.set(r, i, v), m.set(r, i, v));
         }
-        int t = aTug();
+        frayedFits += m.kind(t) == 3 && m.tug(t, 2) >= 3 ? 1 : 0;
         for (int what = 0; what < 5; what++) {
             see("fits(" + t + ", " + r + ", 0, " + n + ", " + what + ")", x.fits(t, r, 0, n, what), m.fits(t, r, 0, n, what));
         }

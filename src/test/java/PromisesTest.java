@@ -36,6 +36,7 @@ public final class PromisesTest {
         promise22Least();
         promise23Share();
         promise24Fits();
+        promise24FitsOfFrayedStoutOnes();
         promise24FitsRefusals();
         promise25Chance();
         promise26Drawn();
@@ -802,6 +803,48 @@ public final class PromisesTest {
         due("no MASS", x.fits(0, 1, 0, 1, 4), NONE);
         tell(x, 1, 38);
         due("41 to 60", x.fits(0, 1, 0, 1, 3), 20);
+    }
+
+    /** A rope PARTS with 3, whether or not it frays in that HOUR: a stout one's, FRAYED 3 to 5, were it another's. */
+    private static void promise24FitsOfFrayedStoutOnes() {
+        // SPEED 1 by a PULL of 5 or more, else 0; it draws more than 5 from HOUR 4 on.
+        TugLines x = told("t20,99;s5,5;");
+        due("HOUR 6", x.hours(6), 93);
+        due("FRAYED 2", x.tug(0, 2), 2);
+        tell(x, 0, 92, 91, 90);
+        due("none is through", x.fits(0, 0, 0, 3, 0), 2 + 8);
+        due("HOUR 7", x.hours(1), 92);
+        due("FRAYED 3", x.tug(0, 2), 3);
+        tell(x, 0, 91, 90);
+        due("all but a lame one draw in HOUR 7", x.fits(0, 0, 0, 1, 0), 2 + 8 + 16 + 32);
+        due("but the stout one alone in HOUR 8", x.fits(0, 0, 0, 2, 0), 8);
+        // A stout one draws PULL and 1 in HOUR 7, PULL and 2 in HOUR 8: SPEED is 1 by 5 to 9.
+        due("PULLS of the stout one that it is", x.fits(0, 0, 0, 2, 1), 16 + 32 + 64 + 128);
+        tell(x, 0, 91, 91, 91);
+        due("gone behind HOUR 7", x.fits(0, 0, 0, 3, 0), 2 + 16 + 32);
+        tell(x, 0, 92, 92, 92);
+        due("a lame one is gone, though it did not draw 5", x.fits(0, 0, 0, 3, 0), 4);
+        due("FRAYED is as it was", x.tug(0, 2), 3);
+        due("it HOLDS as it did", x.count(6), 1);
+        due("HOUR 8", x.hours(1), 91);
+        due("FRAYED 4", x.tug(0, 2), 4);
+        tell(x, 0, 90, 90, 90);
+        due("with 4 as with 3", x.fits(0, 0, 0, 3, 0), 2 + 4 + 16 + 32);
+        due("HOUR 9", x.hours(1), 90);
+        due("FRAYED 5", x.tug(0, 2), 5);
+        tell(x, 0, 89, 89);
+        due("the stout one is through, too, by its sixth", x.fits(0, 0, 0, 2, 0), 2 + 8);
+        tell(x, 0, 90, 90);
+        due("launches that draw nothing in HOUR 9 are gone", x.fits(0, 0, 0, 2, 0), 4 + 16 + 32);
+        // One that frays in that HOUR, too: 4, and gone.
+        x = told("t20,99;s6,5;");
+        due("FRAYED in HOURS 0 to 2", x.hours(3), 96);
+        tell(x, 0, 95, 95, 95);
+        due("a paddler", x.fits(0, 0, 0, 3, 0), 2);
+        tell(x, 0, 96, 96, 96);
+        due("a lame one (3 in HOUR 3), a launch, one with a boy", x.fits(0, 0, 0, 3, 0), 4 + 16 + 32);
+        tell(x, 0, 95, 94, 93, 93);
+        due("a stout one with 6", x.fits(0, 0, 0, 4, 0), 8);
     }
 
     private static void promise24FitsRefusals() {
