@@ -917,12 +917,15 @@ public final class PromisesTest {
         due("no HOURS", x.drawn(0, 1, 1), 2);
         // TUG 1, by 5 leaves 2: both HOLD, SPEED 8: IN.
         due("1 HOUR", x.drawn(1, 1, 0), 1);
-        // 282475249 by 99 leaves 31: OUT 32; 1622650073: 24; 984943658: 16; 1144108930 leaves 0 by 5, TUG 0 lets go: 12;
+        // 282475249 by 99 leaves 34: OUT 35, less 8 is 27; then 19, 11; 1144108930 leaves 0 by 5, TUG 0 lets go: 7;
         due("2 HOURS", x.drawn(2, 1, 0), 1);
         due("4 HOURS", x.drawn(4, 1, 1), 2);
         due("5 HOURS", x.drawn(5, 1, 1), 1);
-        // 470211272: TUG 0 is mended (12 less 8 is 4), 101027544: IN again.
+        due("5 HOURS", x.drawn(5, 1, 0), 1);
+        // 470211272: TUG 0 is mended, 7 less 8: IN again; 101027544: OUT 25, 17.
         due("6 HOURS", x.drawn(6, 1, 1), 2);
+        due("6 HOURS", x.drawn(6, 1, 0), 2);
+        due("7 HOURS", x.drawn(7, 1, 0), 2);
         due("6 HOURS", x.drawn(6, 1, 0), yearsByHand(6));
         due("7 HOURS", x.drawn(7, 1, 0), yearsByHand(7));
         due("60 HOURS", x.drawn(60, 1, 0), yearsByHand(60));
