@@ -706,8 +706,8 @@ public final class TugLines {
             if (sortHere() == 0) {
                 return faulty(MISPLACED);
             }
-            for (int t = 0; sortHere() != 0; t++) {
-                if (t >= MOST_TUGS) {
+            for (int t = 0; t <= MOST_TUGS && sortHere() != 0; t++) {
+                if (t == MOST_TUGS) {
                     return faulty(NO_ROOM);
                 }
                 if (!readTug(told, t)) {
@@ -734,8 +734,8 @@ public final class TugLines {
         }
 
         private boolean readPiers(Estuary told) {
-            for (int p = 0; here() == 'q'; p++) {
-                if (p >= MOST_PIERS) {
+            for (int p = 0; p <= MOST_PIERS && here() == 'q'; p++) {
+                if (p == MOST_PIERS) {
                     return faulty(NO_ROOM);
                 }
                 if (!readPier(told, p)) {

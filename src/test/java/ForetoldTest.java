@@ -276,6 +276,12 @@ public final class ForetoldTest {
         s.due("OUT", x.hours(2), 89);
         s.due("3 for 30", x.least(0, 30), 3);
         s.due("none for 29", x.least(0, 29), NONE);
+        x = told("t4,24;p5,3;");
+        s.due("OUT", x.hours(2), 14);
+        s.due("FRAYED 2: 9 at most, or 3 each", x.least(0, 2), NONE);
+        s.due("FRAYED 2: 3 each", x.least(0, 5), 3);
+        x.mend(0);
+        s.due("FRAYED 0: 7 and 7", x.least(0, 2), 7);
         x = told("t4,30;p1,20;p1,20;");
         s.due("with the other", x.least(0, 15), 1);
         x.loose(0);

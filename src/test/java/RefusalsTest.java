@@ -24,6 +24,7 @@ public final class RefusalsTest {
         asked();
         withoutAnEstuary();
         orderOfRefusals();
+        noMoreThanIsSaid();
         s.end();
     }
 
@@ -429,5 +430,37 @@ public final class RefusalsTest {
         rich("fits: BAD ahead of PLACE", BAD, x -> x.fits(0, 0, -1, 1, 5));
         rich("fits: BAD ahead of PLACE", BAD, x -> x.fits(0, 0, 9, 0, 0));
         rich("as: BAD ahead of KIND", BAD, x -> x.as(5, 3));
+    }
+
+    private static void changesNoMore(String call, ToIntFunction<TugLines> does) {
+        Twins.changesNoMore(s, call, Twins.RICH, does);
+    }
+
+    /** What is not refused changes what its sentence names, and no more. */
+    private static void noMoreThanIsSaid() {
+        s.says("Nothing is promised beyond the answers and state changes described above");
+        changesNoMore("hours", x -> x.hours(24));
+        changesNoMore("mend", x -> x.mend(0));
+        changesNoMore("loose", x -> x.loose(0));
+        changesNoMore("pull", x -> x.pull(0, 20));
+        changesNoMore("clear", x -> x.clear(1));
+        changesNoMore("undo", TugLines::undo);
+        changesNoMore("image", x -> x.image(0));
+        changesNoMore("restore", x -> x.restore(1));
+        Twins.changesNoMore(s, "estuary", Twins.UNTAPED, x -> Sentences.read(x, "t1,1;p1,1;q1,1;"));
+        Consumer<TugLines> life = Twins.RICH;
+        Twins.changesRowsAlone(s, "row", life, x -> x.row(0, 2, 40));
+        Twins.changesRowsAlone(s, "row that was missing", life, x -> x.row(7, 2, 40));
+        Twins.changesRowsAlone(s, "set", life, x -> x.set(0, 0, 1));
+        Twins.changesRowsAlone(s, "copy", life, x -> x.copy(0, 0, 0, 1, 4));
+        Twins.changesRowsAlone(s, "drop", life, x -> x.drop(0));
+        Twins.changesNothing(s, "as", life, x -> x.as(1, 1), 1, 0);
+        askChangesTheTraceAlone();
+    }
+
+    private static void askChangesTheTraceAlone() {
+        // The same ASK once more, so that THE TRACE is as it was, too.
+        Twins.changesNothing(s, "ask", Twins.RICH, x -> x.ask(1, 0), -7, 1);
+        Twins.changesNothing(s, "ask", Twins.RICH.andThen(x -> x.ask(3, 1)), x -> x.ask(3, 1), 96, 1);
     }
 }

@@ -11,13 +11,15 @@ final class Sentences {
 
     Sentences(String name) {
         check = new Check(name);
-        document = plain(read(Path.of(System.getProperty("doc", "../shared/DOC.md"))));
+        document = plain(documentAt(Path.of(System.getProperty("doc", "../shared/DOC.md"))));
     }
 
-    private static String read(Path path) {
+    /** Empty where there is none: then the answers are looked at all the same, but not the quotes. */
+    private static String documentAt(Path path) {
         try {
             return Files.readString(path);
         } catch (IOException e) {
+            System.out.println("no document at " + path + ": the quotes are not looked at");
             return "";
         }
     }
@@ -30,7 +32,7 @@ final class Sentences {
     void says(String quote) {
         endSentence();
         sentence = quote;
-        check.that("the document says \"" + quote + "\"", document.contains(plain(quote)));
+        check.that("the document says \"" + quote + "\"", document.isEmpty() || document.contains(plain(quote)));
     }
 
     void due(String call, long got, long want) {

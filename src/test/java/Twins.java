@@ -84,6 +84,56 @@ final class Twins {
         s.that(call + " changes nothing", seen(life, x).equals(seen(life, twin)));
     }
 
+    /** A call that may change the ESTUARY, its ACTS and IMAGES: all else, status() with it, is as it was. */
+    static void changesNoMore(Sentences s, String call, Consumer<TugLines> life, ToIntFunction<TugLines> does) {
+        TugLines x = new TugLines();
+        TugLines twin = new TugLines();
+        life.accept(x);
+        life.accept(twin);
+        int answer = does.applyAsInt(x);
+        s.that(call + " is answered, not refused: " + answer, answer > -1000001);
+        s.that(call + " changes no ROW, nor the tape, nor THE TRACE, nor fault()", seenApart(x).equals(seenApart(twin)));
+    }
+
+    /** A call that may change ROWS and status(): all else is as it was. */
+    static void changesRowsAlone(Sentences s, String call, Consumer<TugLines> life, ToIntFunction<TugLines> does) {
+        TugLines x = new TugLines();
+        TugLines twin = new TugLines();
+        life.accept(x);
+        life.accept(twin);
+        int answer = does.applyAsInt(x);
+        s.that(call + " is answered, not refused: " + answer, answer > -1000001);
+        s.due("status() behind " + call, x.status(), 0);
+        // How many ROWS there are is the one count that may be another.
+        s.that(call + " changes nothing but ROWS", seenBesidesRows(x).equals(seenBesidesRows(twin)));
+    }
+
+    private static List<Integer> seenBesidesRows(TugLines x) {
+        List<Integer> seen = new ArrayList<>();
+        for (int r = 0; r < 8; r++) x.drop(r);
+        seeNow(x, seen, 6, 4);
+        seeUndone(x, seen, 10, 5, 3);
+        seeTape(x, seen);
+        seeImages(x, seen);
+        return seen;
+    }
+
+    private static List<Integer> seenApart(TugLines x) {
+        List<Integer> seen = new ArrayList<>();
+        seen.add(x.fault());
+        seen.add(x.status());
+        seen.add(x.count(0));
+        seen.add(x.count(8));
+        for (int i = 0; i < 7; i++) seen.add(x.trace(i));
+        // Without a FAULT, since with one the ESTUARY, that may be another, would be seen.
+        if (x.count(8) == 0) Sentences.feed(x, "t9,9;p");
+        seeTape(x, seen);
+        // ITEMS are seen by the same OUT and FORCE as in that life.
+        Sentences.read(x, "t16,58;p6,20;l2,20;");
+        seeRows(x, seen);
+        return seen;
+    }
+
     private static List<Integer> seen(Consumer<TugLines> life, TugLines x) {
         List<Integer> seen = new ArrayList<>();
         if (life == NEAR_THE_END) {
