@@ -92,6 +92,14 @@ public final class AsksTest {
         traced(x, 2, 1, 22, 21, 20);
         traced(x, 3, 1, 23, 20, 13, 10);
         traced(x, 4, 1, 23, 20, 14, 13, 10);
+        s.says("By this it is asked.");
+        // A stout one is a PADDLER, but no LAME one; one with a boy is a LAUNCH, too.
+        s.due("a stout one is a PADDLER", x.as(2, 1), 2);
+        s.due("a stout one is LAME", x.as(2, 2), -1000013);
+        traced(x, 2, 0, 11, 10, 22, 21, 20);
+        s.due("one with a boy is a LAUNCH", x.as(4, 4), 4);
+        s.due("one with a boy is a PADDLER", x.as(4, 1), -1000013);
+        traced(x, 4, 1, 23, 20, 14, 13, 10);
     }
 
     private static void emptyAhead() {

@@ -42,10 +42,33 @@ public final class FaceTest {
         Constructor<?>[] made = face.getDeclaredConstructors();
         check.that("one constructor, public, without parameters",
             made.length == 1 && Modifier.isPublic(made[0].getModifiers()) && made[0].getParameterCount() == 0);
+        keepsTheRules(check, face, open);
+        for (Class<?> inside : face.getDeclaredClasses()) {
+            int mods = inside.getModifiers();
+            check.that(inside + " is static, and not open",
+                Modifier.isStatic(mods) && !Modifier.isPublic(mods) && !Modifier.isProtected(mods));
+            keepsTheRules(check, inside, open);
+        }
         check.due("NONE", TugLines.NONE, -1000000);
         check.due("BAD", TugLines.BAD, -1000001);
         check.due("STATE", TugLines.STATE, -1000002);
         check.due("FULL", TugLines.FULL, -1000003);
         check.end();
+    }
+
+    /** LANGUAGE.md, rules 1, 5 and 11: names of private methods, static fields, how many fields. */
+    private static void keepsTheRules(Check check, Class<?> one, TreeSet<String> open) {
+        int own = 0;
+        for (Field f : one.getDeclaredFields()) {
+            boolean shared = Modifier.isStatic(f.getModifiers());
+            own += shared ? 0 : 1;
+            boolean plain = f.getType() == int.class || f.getType() == int[].class;
+            check.that(f + " is final, and of ints", !shared || Modifier.isFinal(f.getModifiers()) && plain);
+        }
+        check.that(one + " has " + own + " fields, some twenty at most", own <= 20);
+        for (Method m : one.getDeclaredMethods()) {
+            boolean hidden = Modifier.isPrivate(m.getModifiers());
+            check.that(m + " does not bear the name of a public one", !hidden || !open.contains(m.getName()));
+        }
     }
 }

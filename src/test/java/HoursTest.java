@@ -446,6 +446,18 @@ public final class HoursTest {
         x.loose(0);
         s.due("of one that does not HOLD", x.pull(0, 9), 1);
         s.due("it does not HOLD by that", x.tug(0, 3), 0);
+        s.says("PULL of a TUG is another; a PIER is taken off (STANDS 0).");
+        x = told("t60,99;p5,4;q98,7;");
+        s.due("PULL", x.pull(0, 9), 5);
+        s.due("a PIER", x.clear(0), 7);
+        s.due("ACTS", x.count(7), 2);
+        s.due("STANDS", x.pier(0, 1), 0);
+        s.due("the PIER undone", x.undo(), 1);
+        s.due("STANDS", x.pier(0, 1), 7);
+        s.due("PULL is the other yet", x.tug(0, 0), 9);
+        s.due("PULL undone", x.undo(), 0);
+        s.due("PULL", x.tug(0, 0), 5);
+        s.due("no more", x.undo(), STATE);
     }
 
     private static void takenOff() {
